@@ -1,0 +1,102 @@
+/** Ways of using an object that many tests share. */
+final class Use {
+    private Use() {}
+
+    static DeflateEffort fed(int effort, int room, int[] bytes) {
+        DeflateEffort x = new DeflateEffort(effort, room);
+        feedAll(x, bytes);
+        return x;
+    }
+
+    static DeflateEffort fed(int effort, String text) {
+        return fed(effort, 2000, bytes(text));
+    }
+
+    static void feedAll(DeflateEffort x, int[] bytes) {
+        int run;
+        for (int i = 0; i < bytes.length; i += run) {
+            run = 1;
+            while (i + run < bytes.length && bytes[i + run] == bytes[i]) {
+                run++;
+            }
+            x.feed(bytes[i], run);
+        }
+    }
+
+    static void feedCoded(DeflateEffort x, int... coded) {
+        for (int b : coded) {
+            x.feedCoded(b);
+        }
+    }
+
+    static int[] bytes(String text) {
+        int[] bytes = new int[text.length()];
+        for (int i = 0; i < bytes.length; i++) {
+            bytes[i] = text.charAt(i);
+        }
+        return bytes;
+    }
+
+    static int[] came(DeflateEffort x) {
+        int[] came = new int[x.told(3)];
+        for (int i = 0; i < came.length; i++) {
+            came[i] = x.byteAt(i);
+        }
+        return came;
+    }
+
+    static int[] inflated(DeflateEffort x) {
+        int[] bytes = new int[x.told(8)];
+        for (int i = 0; i < bytes.length; i++) {
+            bytes[i] = x.out(i);
+        }
+        return bytes;
+    }
+
+    /** All that an object tells of itself, to see that a call changed nothing. */
+    static String picture(DeflateEffort x) {
+        StringBuilder text = new StringBuilder();
+        for (int what = -1; what <= 10; what++) {
+            text.append(x.told(what)).append(' ');
+        }
+        for (int b : came(x)) {
+            text.append('c').append(b);
+        }
+        for (int k = 0; k < x.told(4); k++) {
+            for (int what = 0; what < 6; what++) {
+                text.append('b').append(x.block(k, what));
+            }
+        }
+        for (int b : inflated(x)) {
+            text.append('o').append(b);
+        }
+        for (int kind = 0; kind < 4; kind++) {
+            text.append('s').append(x.sum(kind));
+        }
+        for (int i = 0; i < x.told(7); i++) {
+            int was = x.alter(i, 0);
+            x.alter(i, was);
+            text.append('f').append(was);
+        }
+        return text.toString();
+    }
+
+    /** Bits from the lowest of each byte on, written as 0 and 1 with any spaces between. */
+    static int[] packed(String bits) {
+        String plain = bits.replace(" ", "");
+        int[] bytes = new int[(plain.length() + 7) / 8];
+        for (int i = 0; i < plain.length(); i++) {
+            bytes[i / 8] |= (plain.charAt(i) - '0') << (i % 8);
+        }
+        return bytes;
+    }
+
+    /** A number as bits from the lowest on. */
+    static String low(int value, int count) {
+        StringBuilder bits = new StringBuilder();
+        for (int i = 0; i < count; i++) {
+            bits.append((value >>> i) & 1);
+        }
+        return bits.toString();
+    }
+}
