@@ -33,6 +33,9 @@ public final class DeflateEffort {
     private static final int LEAST_MATCH = 3;
     private static final int MOST_MATCH = 258;
     private static final int LONGEST_CODE = 15;
+    private static final int LONGEST_OF_LENGTHS = 7;
+    // How many bits the fixed code of every distance has.
+    private static final int FIXED_DISTANCE = 5;
 
     private static final int[] LENGTH_BASE = {
         3, 4, 5, 6, 7, 8, 9, 10, 11, 13, 15, 17, 19, 23, 27, 31, 35, 43, 51, 59, 67, 83, 99, 115,
@@ -94,7 +97,7 @@ public final class DeflateEffort {
             if (taken.kind == STORED) {
                 writer.putStored(fed, taken.from, taken.to, last);
             } else {
-                writer.putCoded(cutter.planOf(taken), taken.kind, last);
+                writer.putCoded(cutter.planOf(taken), cutter.row, last);
             }
         }
         return writer.byteCount();
@@ -237,6 +240,20 @@ public final class DeflateEffort {
         return ~left;
     }
 
+    // A token is a literal's byte, or a match's length above the 16 bits of its distance.
+    private static int matchToken(int length, int distance) {
+        return (length << 16) | distance;
+    }
+
+    /** The length of a match; 0 of a literal. */
+    private static int tokenLength(int token) {
+        return token >>> 16;
+    }
+
+    private static int tokenDistance(int token) {
+        return token & 0xFFFF;
+    }
+
     /** Which length symbol, from 257 on, tells a match of this length. */
     private static int lengthSymbol(int length) {
         int k = 0;
@@ -290,18 +307,15 @@ public final class DeflateEffort {
         return symbol < 280 ? symbol - 256 : 0xC0 + symbol - 280;
     }
 
-    /** How often symbols occur, and the lengths and the bits of the code that is made for them. */
+    /** How often symbols occur, and the lengths of the code that is made for them. */
     private static final class Code {
         final int[] count;
         final int[] length;
-        final int[] bits;
-        private final int[] next = new int[LONGEST_CODE + 2];
 
         Code(int symbols) {
             int size = Math.max(1, symbols);
             count = new int[size];
             length = new int[size];
-            bits = new int[size];
         }
 
         int longest() {
@@ -324,25 +338,6 @@ public final class DeflateEffort {
         void halveCounts() {
             for (int s = 0; s < count.length; s++) {
                 count[s] = (count[s] + 1) / 2;
-            }
-        }
-
-        /** Gives each symbol its bits by the lengths, as RFC 1951 does. */
-        void giveBits() {
-            Arrays.fill(next, 0);
-            for (int s = 0; s < length.length; s++) {
-                if (length[s] > 0 && length[s] <= LONGEST_CODE) {
-                    next[length[s] + 1]++;
-                }
-            }
-            for (int n = 1; n < next.length; n++) {
-                next[n] = (next[n] + next[n - 1]) << 1;
-            }
-            for (int s = 0; s < length.length; s++) {
-                if (length[s] > 0 && length[s] <= LONGEST_CODE) {
-                    bits[s] = next[length[s]];
-                    next[length[s]]++;
-                }
             }
         }
     }
@@ -427,8 +422,8 @@ public final class DeflateEffort {
         private final int[] bytes;
         private final int[] bucket = new int[BUCKETS];
         private final int[] below = new int[MOST_BYTES];
-        final int[] length = new int[MOST_BYTES];
-        final int[] distance = new int[MOST_BYTES];
+        // At each place the match as a token, or 0 if there is none.
+        private final int[] found = new int[MOST_BYTES];
         int steps = 0;
 
         Matches(int[] bytes) {
@@ -448,30 +443,37 @@ public final class DeflateEffort {
 
         void find(int from, int to, int most) {
             for (int p = from; p < to; p++) {
-                length[p] = 0;
-                distance[p] = 0;
-                if (p + LEAST_MATCH <= to) {
-                    findAt(p, Math.min(MOST_MATCH, to - p), most);
-                }
+                found[p] = p + LEAST_MATCH <= to ? longestAt(p, Math.min(MOST_MATCH, to - p), most) : 0;
             }
         }
 
-        private void findAt(int p, int limit, int most) {
+        int lengthAt(int p) {
+            return tokenLength(found[p]);
+        }
+
+        int distanceAt(int p) {
+            return tokenDistance(found[p]);
+        }
+
+        private int longestAt(int p, int limit, int most) {
+            int length = 0;
+            int distance = 0;
             int looked = 0;
             int q = below[p];
             // No more than p places lie below p.
             for (int k = 0; k < p && q >= 0 && looked < most; k++) {
                 if (sameThree(q, p)) {
                     looked++;
-                    int same = sameBytes(q, p, length[p], limit);
-                    if (same > length[p]) {
-                        length[p] = same;
-                        distance[p] = p - q;
+                    int same = sameBytes(q, p, length, limit);
+                    if (same > length) {
+                        length = same;
+                        distance = p - q;
                     }
                 }
                 q = below[q];
             }
             steps += looked;
+            return matchToken(length, distance);
         }
 
         private boolean sameThree(int q, int p) {
@@ -491,124 +493,35 @@ public final class DeflateEffort {
         }
     }
 
-    /** The tokens of a block, the codes of their own, and the kind by which they take fewest bits. */
-    private static final class Plan {
-        // A literal is its byte; a match has its length above the 16 bits of its distance.
-        final int[] token = new int[MOST_BYTES];
+    /** The lengths of two codes, told in one row by symbols that have a code themselves. */
+    private static final class LengthRow {
+        final Code code = new Code(LENGTHS);
+        // Symbols of that code, with what their extra bits tell above 8 bits.
+        private final int[] row = new int[LITERALS + DISTANCES];
         int size = 0;
-        int matches = 0;
-        final Code literals = new Code(LITERALS);
-        final Code distances = new Code(DISTANCES);
-        final Code lengths = new Code(LENGTHS);
-        // The row of lengths as symbols of the lengths' code, the extra bits above 8 bits.
-        final int[] row = new int[LITERALS + DISTANCES];
-        int rowSize = 0;
-        int literalLengths = 0;
-        int distanceLengths = 0;
-        int toldLengths = 0;
-        int kind = STORED;
-        int bits = 0;
+        int literals = 0;
+        int distances = 0;
+        // How many lengths of the row's own code are told.
+        int toldOfCode = 0;
 
-        void restart() {
+        void tellBoth(Code forLiterals, Code forDistances) {
+            literals = forLiterals.usedLengths(END + 1);
+            distances = forDistances.usedLengths(1);
             size = 0;
-            matches = 0;
-            Arrays.fill(literals.count, 0);
-            Arrays.fill(distances.count, 0);
-            literals.count[END] = 1;
-        }
-
-        void addLiteral(int b) {
-            if (size < token.length && isByte(b)) {
-                token[size] = b;
-                size++;
-                literals.count[b]++;
-            }
-        }
-
-        void addMatch(int length, int distance) {
-            if (size < token.length) {
-                token[size] = (length << 16) | distance;
-                size++;
-                matches++;
-                literals.count[lengthSymbol(length)]++;
-                distances.count[distanceSymbol(distance)]++;
-            }
-        }
-
-        void addToken(int t) {
-            if (t >>> 16 == 0) {
-                addLiteral(t);
-            } else {
-                addMatch(t >>> 16, t & 0xFFFF);
-            }
-        }
-
-        void weighStored(int bytes) {
-            kind = STORED;
-            bits = 42 + 8 * bytes;
-        }
-
-        /** Makes the codes of the tokens' own, and finds the kind with the fewest bits. */
-        void weigh(Joiner joiner, int bytes) {
-            joiner.join(literals);
-            joiner.join(distances);
-            tellRow();
-            makeLengthsCode(joiner);
-            weighStored(bytes);
-            takeFewer(FIXED, fixedBits());
-            takeFewer(OWN, ownBits());
-        }
-
-        private void takeFewer(int otherKind, int otherBits) {
-            if (otherBits < bits) {
-                kind = otherKind;
-                bits = otherBits;
-            }
-        }
-
-        private int fixedBits() {
-            int all = 3;
-            for (int s = 0; s < literals.count.length; s++) {
-                all += literals.count[s] * (fixedLength(s) + literalExtra(s));
-            }
-            for (int d = 0; d < distances.count.length && d < DISTANCE_EXTRA.length; d++) {
-                all += distances.count[d] * (5 + DISTANCE_EXTRA[d]);
-            }
-            return all;
-        }
-
-        private int ownBits() {
-            int all = 3 + 14 + 3 * toldLengths;
-            for (int i = 0; i < rowSize; i++) {
-                int symbol = row[i] & 0xFF;
-                all += lengths.length[symbol] + repeatExtra(symbol);
-            }
-            for (int s = 0; s < literals.count.length; s++) {
-                all += literals.count[s] * (literals.length[s] + literalExtra(s));
-            }
-            for (int d = 0; d < distances.count.length && d < DISTANCE_EXTRA.length; d++) {
-                all += distances.count[d] * (distances.length[d] + DISTANCE_EXTRA[d]);
-            }
-            return all;
-        }
-
-        private void tellRow() {
-            literalLengths = literals.usedLengths(END + 1);
-            distanceLengths = distances.usedLengths(1);
-            rowSize = 0;
-            Arrays.fill(lengths.count, 0);
-            int all = literalLengths + distanceLengths;
-            int begin = 0;
-            for (int i = 1; i <= all; i++) {
-                if (i == all || lengthAt(i) != lengthAt(begin)) {
-                    tellEqual(lengthAt(begin), i - begin);
-                    begin = i;
+            Arrays.fill(code.count, 0);
+            int all = literals + distances;
+            int equal = 0;
+            int before = NONE;
+            for (int i = 0; i < all; i++) {
+                int length = i < literals ? forLiterals.length[i] : forDistances.length[i - literals];
+                if (length != before) {
+                    tellEqual(before, equal);
+                    before = length;
+                    equal = 0;
                 }
+                equal++;
             }
-        }
-
-        private int lengthAt(int i) {
-            return i < literalLengths ? literals.length[i] : distances.length[i - literalLengths];
+            tellEqual(before, equal);
         }
 
         private void tellEqual(int length, int many) {
@@ -623,7 +536,7 @@ public final class DeflateEffort {
                     tellSymbol(17, left - 3);
                     left = 0;
                 }
-            } else {
+            } else if (left > 0) {
                 tellSymbol(length, 0);
                 left--;
                 while (left >= 3) {
@@ -638,24 +551,128 @@ public final class DeflateEffort {
         }
 
         private void tellSymbol(int symbol, int extra) {
-            if (rowSize < row.length && symbol >= 0 && symbol < LENGTHS) {
-                row[rowSize] = (extra << 8) | symbol;
-                rowSize++;
-                lengths.count[symbol]++;
+            if (size < row.length && symbol >= 0 && symbol < LENGTHS) {
+                row[size] = (extra << 8) | symbol;
+                size++;
+                code.count[symbol]++;
             }
         }
 
-        private void makeLengthsCode(Joiner joiner) {
-            joiner.join(lengths);
+        void makeCode(Joiner joiner) {
+            joiner.join(code);
             // Once all counts are 1, no length is above 5: ten halvings are plenty.
-            for (int i = 0; i < 10 && lengths.longest() > 7; i++) {
-                lengths.halveCounts();
-                joiner.join(lengths);
+            for (int i = 0; i < 10 && code.longest() > LONGEST_OF_LENGTHS; i++) {
+                code.halveCounts();
+                joiner.join(code);
             }
-            toldLengths = LENGTHS;
-            while (toldLengths > 4 && lengths.length[LENGTHS_ORDER[toldLengths - 1]] == 0) {
-                toldLengths--;
+            toldOfCode = LENGTHS;
+            while (toldOfCode > 4 && code.length[LENGTHS_ORDER[toldOfCode - 1]] == 0) {
+                toldOfCode--;
             }
+        }
+
+        int symbolAt(int i) {
+            return row[i] & 0xFF;
+        }
+
+        int extraAt(int i) {
+            return row[i] >>> 8;
+        }
+
+        int bits() {
+            int all = 3 * toldOfCode;
+            for (int i = 0; i < size; i++) {
+                all += code.length[symbolAt(i)] + repeatExtra(symbolAt(i));
+            }
+            return all;
+        }
+    }
+
+    /** The tokens of a block, the codes of their own, and the kind by which they take fewest bits. */
+    private static final class Plan {
+        final int[] token = new int[MOST_BYTES];
+        int size = 0;
+        int matches = 0;
+        final Code literals = new Code(LITERALS);
+        final Code distances = new Code(DISTANCES);
+        int kind = STORED;
+        int bits = 0;
+
+        void restart() {
+            size = 0;
+            matches = 0;
+            Arrays.fill(literals.count, 0);
+            Arrays.fill(distances.count, 0);
+            literals.count[END] = 1;
+        }
+
+        void addToken(int t) {
+            if (size >= token.length) {
+                return;
+            }
+            token[size] = t;
+            size++;
+            int length = tokenLength(t);
+            if (length == 0) {
+                literals.count[t & 0xFF]++;
+            } else {
+                matches++;
+                literals.count[lengthSymbol(length)]++;
+                distances.count[distanceSymbol(tokenDistance(t))]++;
+            }
+        }
+
+        void weighStored(int bytes) {
+            kind = STORED;
+            bits = 42 + 8 * bytes;
+        }
+
+        /** Makes the codes of the tokens' own, and finds the kind with the fewest bits. */
+        void weigh(Joiner joiner, LengthRow row, int bytes) {
+            joiner.join(literals);
+            joiner.join(distances);
+            row.tellBoth(literals, distances);
+            row.makeCode(joiner);
+            weighStored(bytes);
+            takeFewer(FIXED, 3 + extraBits() + fixedBits());
+            takeFewer(OWN, 3 + 14 + row.bits() + extraBits() + ownBits());
+        }
+
+        private void takeFewer(int otherKind, int otherBits) {
+            if (otherBits < bits) {
+                kind = otherKind;
+                bits = otherBits;
+            }
+        }
+
+        private int extraBits() {
+            int all = 0;
+            for (int s = END + 1; s < LITERALS; s++) {
+                all += literals.count[s] * literalExtra(s);
+            }
+            for (int d = 0; d < DISTANCES; d++) {
+                all += distances.count[d] * DISTANCE_EXTRA[d];
+            }
+            return all;
+        }
+
+        private int fixedBits() {
+            int all = FIXED_DISTANCE * matches;
+            for (int s = 0; s < LITERALS; s++) {
+                all += literals.count[s] * fixedLength(s);
+            }
+            return all;
+        }
+
+        private int ownBits() {
+            int all = 0;
+            for (int s = 0; s < LITERALS; s++) {
+                all += literals.count[s] * literals.length[s];
+            }
+            for (int d = 0; d < DISTANCES; d++) {
+                all += distances.count[d] * distances.length[d];
+            }
+            return all;
         }
     }
 
@@ -691,8 +708,9 @@ public final class DeflateEffort {
             for (int p = to - 1; p >= from; p--) {
                 int best = ofLiteral[matches.bytes[p]] + least[p + 1];
                 taken[p] = 1;
-                int far = ofDistance[distanceSymbol(matches.distance[p])];
-                for (int n = LEAST_MATCH; n <= matches.length[p]; n++) {
+                int longest = matches.lengthAt(p);
+                int far = ofDistance[distanceSymbol(matches.distanceAt(p))];
+                for (int n = LEAST_MATCH; n <= longest; n++) {
                     int price = far + ofLength[n] + least[p + n];
                     if (price < best) {
                         best = price;
@@ -745,6 +763,7 @@ public final class DeflateEffort {
         private final int[] bytes;
         final Matches matches;
         private final Joiner joiner = new Joiner();
+        final LengthRow row = new LengthRow();
         private final Prices prices = new Prices();
         private final int[] lengthTaken = new int[MOST_BYTES];
         private Plan hand = new Plan();
@@ -821,12 +840,12 @@ public final class DeflateEffort {
             matches.find(from, to, 4 * effort);
             chooseByMatches(from, to);
             addTokens(hand, from, to);
-            hand.weigh(joiner, to - from);
+            hand.weigh(joiner, row, to - from);
             for (int round = 0; round < effort - 6; round++) {
                 prices.takeFrom(hand);
                 prices.choose(matches, lengthTaken, from, to);
                 addTokens(trial, from, to);
-                trial.weigh(joiner, to - from);
+                trial.weigh(joiner, row, to - from);
                 if (trial.bits >= hand.bits) {
                     // The tokens at hand stay, so another round would find the same ones again.
                     break;
@@ -841,9 +860,9 @@ public final class DeflateEffort {
 
         private void chooseByMatches(int from, int to) {
             for (int p = from; p < to; p++) {
-                boolean nextIsLonger =
-                        effort >= 4 && p + 1 < to && matches.length[p + 1] > matches.length[p];
-                lengthTaken[p] = nextIsLonger ? 1 : Math.max(1, matches.length[p]);
+                int length = matches.lengthAt(p);
+                boolean nextIsLonger = effort >= 4 && p + 1 < to && matches.lengthAt(p + 1) > length;
+                lengthTaken[p] = nextIsLonger ? 1 : Math.max(1, length);
             }
         }
 
@@ -852,21 +871,17 @@ public final class DeflateEffort {
             int length;
             for (int p = from; p < to; p += length) {
                 length = Math.max(1, lengthTaken[p]);
-                if (length == 1) {
-                    plan.addLiteral(bytes[p]);
-                } else {
-                    plan.addMatch(length, matches.distance[p]);
-                }
+                plan.addToken(length == 1 ? bytes[p] : matchToken(length, matches.distanceAt(p)));
             }
         }
 
-        /** The tokens of a block that was taken, with their codes. */
+        /** The tokens of a block that was taken, with their codes; row is that of the codes, too. */
         Plan planOf(Block block) {
             hand.restart();
             for (int i = 0; i < block.size; i++) {
                 hand.addToken(block.token[i]);
             }
-            hand.weigh(joiner, block.to - block.from);
+            hand.weigh(joiner, row, block.to - block.from);
             return hand;
         }
     }
@@ -875,6 +890,10 @@ public final class DeflateEffort {
     private static final class Writer {
         private final int[] came = new int[MOST_CAME];
         private int bitCount = 0;
+        private final int[] literalCode = new int[LITERALS];
+        private final int[] distanceCode = new int[DISTANCES];
+        private final int[] lengthCode = new int[LENGTHS];
+        private final int[] next = new int[LONGEST_CODE + 2];
 
         void restart() {
             Arrays.fill(came, 0);
@@ -921,44 +940,63 @@ public final class DeflateEffort {
             }
         }
 
-        void putCoded(Plan plan, int kind, int last) {
+        void putCoded(Plan plan, LengthRow row, int last) {
             putBits(last, 1);
-            putBits(kind, 2);
-            boolean own = kind == OWN;
+            putBits(plan.kind, 2);
+            boolean own = plan.kind == OWN;
             if (own) {
-                plan.literals.giveBits();
-                plan.distances.giveBits();
-                plan.lengths.giveBits();
-                putLengths(plan);
+                giveCodes(plan.literals.length, literalCode);
+                giveCodes(plan.distances.length, distanceCode);
+                giveCodes(row.code.length, lengthCode);
+                putRow(row);
             }
             for (int i = 0; i < plan.size; i++) {
                 int t = plan.token[i];
-                if (t >>> 16 == 0) {
+                if (tokenLength(t) == 0) {
                     putLiteral(plan, own, t);
                 } else {
-                    putMatch(plan, own, t >>> 16, t & 0xFFFF);
+                    putMatch(plan, own, tokenLength(t), tokenDistance(t));
                 }
             }
             putLiteral(plan, own, END);
         }
 
-        private void putLengths(Plan plan) {
-            putBits(plan.literalLengths - END - 1, 5);
-            putBits(plan.distanceLengths - 1, 5);
-            putBits(plan.toldLengths - 4, 4);
-            for (int i = 0; i < plan.toldLengths && i < LENGTHS; i++) {
-                putBits(plan.lengths.length[LENGTHS_ORDER[i]], 3);
+        /** Gives each symbol its code by the lengths, as RFC 1951 does. */
+        private void giveCodes(int[] length, int[] code) {
+            Arrays.fill(next, 0);
+            for (int s = 0; s < length.length; s++) {
+                if (length[s] > 0 && length[s] <= LONGEST_CODE) {
+                    next[length[s] + 1]++;
+                }
             }
-            for (int i = 0; i < plan.rowSize; i++) {
-                int symbol = plan.row[i] & 0xFF;
-                putCode(plan.lengths.bits[symbol], plan.lengths.length[symbol]);
-                putBits(plan.row[i] >>> 8, repeatExtra(symbol));
+            for (int n = 1; n < next.length; n++) {
+                next[n] = (next[n] + next[n - 1]) << 1;
+            }
+            for (int s = 0; s < length.length && s < code.length; s++) {
+                if (length[s] > 0 && length[s] <= LONGEST_CODE) {
+                    code[s] = next[length[s]];
+                    next[length[s]]++;
+                }
+            }
+        }
+
+        private void putRow(LengthRow row) {
+            putBits(row.literals - END - 1, 5);
+            putBits(row.distances - 1, 5);
+            putBits(row.toldOfCode - 4, 4);
+            for (int i = 0; i < row.toldOfCode && i < LENGTHS; i++) {
+                putBits(row.code.length[LENGTHS_ORDER[i]], 3);
+            }
+            for (int i = 0; i < row.size; i++) {
+                int symbol = row.symbolAt(i);
+                putCode(lengthCode[symbol], row.code.length[symbol]);
+                putBits(row.extraAt(i), repeatExtra(symbol));
             }
         }
 
         private void putLiteral(Plan plan, boolean own, int symbol) {
             if (own) {
-                putCode(plan.literals.bits[symbol], plan.literals.length[symbol]);
+                putCode(literalCode[symbol], plan.literals.length[symbol]);
             } else {
                 putCode(fixedCode(symbol), fixedLength(symbol));
             }
@@ -970,9 +1008,9 @@ public final class DeflateEffort {
             putBits(length - LENGTH_BASE[symbol - END - 1], literalExtra(symbol));
             int far = distanceSymbol(distance);
             if (own) {
-                putCode(plan.distances.bits[far], plan.distances.length[far]);
+                putCode(distanceCode[far], plan.distances.length[far]);
             } else {
-                putCode(far, 5);
+                putCode(far, FIXED_DISTANCE);
             }
             putBits(distance - DISTANCE_BASE[far], DISTANCE_EXTRA[far]);
         }
@@ -1054,6 +1092,8 @@ public final class DeflateEffort {
         private int bitCount = 0;
         private int at = 0;
         private int blockBit = 0;
+        private int literalLengths = 0;
+        private int distanceLengths = 0;
         private final int[] length = new int[LITERALS + FIXED_DISTANCES];
         private final CodeSet fixedLiterals = new CodeSet(FIXED_LITERALS);
         private final CodeSet fixedDistances = new CodeSet(FIXED_DISTANCES);
@@ -1068,7 +1108,7 @@ public final class DeflateEffort {
                 length[s] = fixedLength(s);
             }
             fixedLiterals.make(length, 0, FIXED_LITERALS);
-            Arrays.fill(length, 5);
+            Arrays.fill(length, FIXED_DISTANCE);
             fixedDistances.make(length, 0, FIXED_DISTANCES);
         }
 
@@ -1093,10 +1133,12 @@ public final class DeflateEffort {
             stopBit = bit;
         }
 
-        /** The next bits as a number, or NONE if there are not so many: then more are wanted. */
+        /** The next bits as a number; NONE if more are wanted for it, or the reading has stopped. */
         private int takeBits(int count) {
-            if (count > bitCount - at) {
+            if (state == GOING && count > bitCount - at) {
                 state = WANTS_MORE;
+            }
+            if (state != GOING) {
                 return NONE;
             }
             int value = 0;
@@ -1121,10 +1163,10 @@ public final class DeflateEffort {
                     readSymbols(fixedLiterals, fixedDistances);
                     break;
                 case OWN:
-                    readOwnCodes();
-                    if (state == GOING) {
-                        readSymbols(ownLiterals, ownDistances);
-                    }
+                    readNumbers();
+                    readLengthsCode();
+                    readRow();
+                    readSymbols(ownLiterals, ownDistances);
                     break;
                 default:
                     breakAt(blockBit);
@@ -1164,33 +1206,24 @@ public final class DeflateEffort {
             }
         }
 
-        private void readOwnCodes() {
-            int numberBit = at;
-            int literals = takeBits(5);
-            if (state == GOING && literals + END + 1 > LITERALS) {
-                breakAt(numberBit);
+        /** How many lengths of literals and lengths, and of distances, the row of lengths has. */
+        private void readNumbers() {
+            int literalsBit = at;
+            literalLengths = takeBits(5) + END + 1;
+            if (state == GOING && literalLengths > LITERALS) {
+                breakAt(literalsBit);
             }
-            if (state != GOING) {
-                return;
-            }
-            numberBit = at;
-            int distances = takeBits(5);
-            if (state == GOING && distances + 1 > DISTANCES) {
-                breakAt(numberBit);
-            }
-            if (state != GOING) {
-                return;
-            }
-            readLengthsCode();
-            if (state == GOING) {
-                readRow(literals + END + 1, distances + 1);
+            int distancesBit = at;
+            distanceLengths = takeBits(5) + 1;
+            if (state == GOING && distanceLengths > DISTANCES) {
+                breakAt(distancesBit);
             }
         }
 
         private void readLengthsCode() {
-            int told = takeBits(4);
+            int toldOfCode = takeBits(4) + 4;
             Arrays.fill(length, 0);
-            for (int i = 0; i < told + 4 && i < LENGTHS && state == GOING; i++) {
+            for (int i = 0; i < toldOfCode && i < LENGTHS && state == GOING; i++) {
                 int n = takeBits(3);
                 if (n != NONE) {
                     length[LENGTHS_ORDER[i]] = n;
@@ -1204,8 +1237,8 @@ public final class DeflateEffort {
             }
         }
 
-        private void readRow(int literals, int distances) {
-            int all = literals + distances;
+        private void readRow() {
+            int all = literalLengths + distanceLengths;
             int filled = 0;
             // Each symbol of the row fills a length at least.
             for (int k = 0; k < all && filled < all && state == GOING; k++) {
@@ -1214,8 +1247,8 @@ public final class DeflateEffort {
             if (state != GOING) {
                 return;
             }
-            ownLiterals.make(length, 0, literals);
-            ownDistances.make(length, literals, distances);
+            ownLiterals.make(length, 0, literalLengths);
+            ownDistances.make(length, literalLengths, distanceLengths);
             if (length[END] == 0 || !ownLiterals.isFull() || !ownDistances.mayStandForDistances()) {
                 breakAt(blockBit);
             }

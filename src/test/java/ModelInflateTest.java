@@ -72,15 +72,8 @@ final class ModelInflateTest {
             case 2: lengths[literals + random.nextInt(distances)] = 1 + random.nextInt(2); break;
             default: fill(lengths, literals, distances, 1 + random.nextInt(6), random); break;
         }
-        // All 16 lengths have 4 bits, so the row tells each length by itself; 16 to 18 have none.
-        StringBuilder bits = new StringBuilder("101");
-        bits.append(Use.low(literals - 257, 5)).append(Use.low(distances - 1, 5)).append(Use.low(15, 4));
-        for (int i = 0; i < 19; i++) {
-            bits.append(Use.low(Model.ORDER[i] < 16 ? 4 : 0, 3));
-        }
-        for (int length : lengths) {
-            bits.append(Model.high(length, 4));
-        }
+        StringBuilder bits = new StringBuilder(Use.ownBlock(
+                Arrays.copyOf(lengths, literals), Arrays.copyOfRange(lengths, literals, lengths.length)));
         int noise = random.nextInt(200);
         for (int i = 0; i < noise; i++) {
             bits.append(random.nextInt(2));

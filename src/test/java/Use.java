@@ -91,6 +91,34 @@ final class Use {
         return bytes;
     }
 
+    /**
+     * The beginning of a last block of own codes with these lengths: the row tells each of them by a
+     * code of four bits, as the lengths 0 .. 15 have four bits each.
+     */
+    static String ownBlock(int[] literals, int[] distances) {
+        StringBuilder bits = new StringBuilder("101");
+        bits.append(low(literals.length - 257, 5)).append(low(distances.length - 1, 5)).append(low(15, 4));
+        for (int symbol : Model.ORDER) {
+            bits.append(low(symbol < 16 ? 4 : 0, 3));
+        }
+        for (int length : literals) {
+            bits.append(Model.high(length, 4));
+        }
+        for (int length : distances) {
+            bits.append(Model.high(length, 4));
+        }
+        return bits.toString();
+    }
+
+    /** A row of lengths, all 0 but for pairs of a symbol and its length. */
+    static int[] lengths(int size, int... pairs) {
+        int[] lengths = new int[size];
+        for (int i = 0; i < pairs.length; i += 2) {
+            lengths[pairs[i]] = pairs[i + 1];
+        }
+        return lengths;
+    }
+
     /** A number as bits from the lowest on. */
     static String low(int value, int count) {
         StringBuilder bits = new StringBuilder();
