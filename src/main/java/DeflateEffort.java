@@ -690,9 +690,11 @@ public final class DeflateEffort {
             for (int b = 0; b < ofLiteral.length; b++) {
                 ofLiteral[b] = priceOf(hand.literals.length[b], NEW_LITERAL);
             }
-            for (int n = LEAST_MATCH; n < ofLength.length; n++) {
-                int symbol = lengthSymbol(n);
-                ofLength[n] = priceOf(hand.literals.length[symbol], NEW_LITERAL) + literalExtra(symbol);
+            int end = MOST_MATCH + 1;
+            for (int k = LENGTH_BASE.length - 1; k >= 0; k--) {
+                int price = priceOf(hand.literals.length[END + 1 + k], NEW_LITERAL) + LENGTH_EXTRA[k];
+                Arrays.fill(ofLength, LENGTH_BASE[k], end, price);
+                end = LENGTH_BASE[k];
             }
             for (int d = 0; d < ofDistance.length; d++) {
                 ofDistance[d] = priceOf(hand.distances.length[d], NEW_DISTANCE) + DISTANCE_EXTRA[d];
