@@ -155,6 +155,17 @@ final class DeflateTest {
         Check.same("the noise begins", x.block(1, 0), 256);
         Check.same("the noise has", x.block(1, 1), 256);
         Check.same("the noise is stored", x.block(1, 2), 0);
+        // 3 + 9 + 9 + 12 + 5 + 7 bits, then the three of a stored block end a byte: none are left out.
+        int[] high = Inputs.row(0, 300, 5);
+        java.util.Arrays.fill(high, 0, 128, 201);
+        high[0] = 200;
+        DeflateEffort whole = Use.fed(2, 9, high);
+        Check.same("a stored block's head that ends a byte: deflate()", whole.deflate(), 6 + 4 + 172);
+        Check.same("bits before it", whole.block(0, 3), 45);
+        int[] due = {172, 0, 255 - 172, 255, high[128]};
+        for (int i = 0; i < due.length; i++) {
+            Check.same("a stored block's head that ends a byte: byteAt", whole.byteAt(6 + i), due[i]);
+        }
         // By effort 0 each block more takes 42 bits more.
         DeflateEffort none = Use.fed(0, 9, mixed);
         none.deflate();

@@ -75,6 +75,8 @@ final class InflateTest {
         due("no bytes", "1 00 00000" + none, 1, 0, 40);
         due("bits that are set before the length", "1 00 10111" + none, 1, 0, 40);
         due("behind another block", FIXED.replace("1 ", "0 ") + A + END + "1 00 000" + none, 1, 1, 56);
+        String high = "110010000 ";
+        due("behind a head that ends a byte", "0 10" + high + high + high + END + "1 00" + none, 1, 3, 72);
         due("no complement", "1 00 00000" + Use.low(2, 16) + Use.low(2, 16), 2, 0, 8);
         due("no complement by a bit", "1 00 00000" + Use.low(0, 16) + Use.low(0x7FFF, 16), 2, 0, 8);
         due("no complement of a second block", "0 00 00000" + none + "1 00 00000" + Use.low(1, 16) + Use.low(1, 16), 2, 0, 48);
