@@ -8,9 +8,7 @@ final class BlockTest {
     }
 
     private static void tells(String name, DeflateEffort x, int k, int... due) {
-        for (int what = 0; what < due.length; what++) {
-            Check.same(name + ": block(" + k + ", " + what + ")", x.block(k, what), due[what]);
-        }
+        Use.blockTells(name, x, k, due);
         int[] others = {-1, 6, 7, Integer.MIN_VALUE, Integer.MAX_VALUE};
         for (int what : others) {
             Check.same(name + ": block(" + k + ", " + what + ")", x.block(k, what), DeflateEffort.NONE);

@@ -1,6 +1,6 @@
 /** Promise 3: deflate, by answers that were worked out by hand. */
 final class DeflateTest {
-    private static final String END = "0000000";
+    private static final String END = Coded.END;
 
     public static void main(String[] args) {
         small();
@@ -15,19 +15,11 @@ final class DeflateTest {
     }
 
     private static String literals(String text) {
-        StringBuilder bits = new StringBuilder();
-        for (char c : text.toCharArray()) {
-            bits.append(Model.high(0x30 + c, 8));
-        }
-        return bits.toString();
+        return Coded.literals(text);
     }
 
     private static void comes(String name, DeflateEffort x, String bits) {
-        int[] due = Use.packed(bits);
-        Check.same(name + ": deflate()", x.deflate(), due.length);
-        for (int i = 0; i < Math.min(due.length, x.told(3)); i++) {
-            Check.same(name + ": byteAt(" + i + ")", x.byteAt(i), due[i]);
-        }
+        Use.comes(name, x, bits);
     }
 
     private static void small() {

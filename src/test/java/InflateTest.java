@@ -1,9 +1,9 @@
 /** Promise 9: inflate, thing by thing that can't be. */
 final class InflateTest {
-    private static final String FIXED = "1 10 ";
-    private static final String END = "0000000 ";
-    private static final String A = "10010001 ";
-    private static final String THREE = "0000001 ";
+    private static final String FIXED = Coded.FIXED;
+    private static final String END = Coded.END;
+    private static final String A = Coded.A;
+    private static final String THREE = Coded.THREE;
     // Codes of their own: 257 is 0, a is 10, the end is 11.
     private static final int[] FEW = Use.lengths(258, 97, 2, 256, 2, 257, 1);
 
@@ -24,15 +24,11 @@ final class InflateTest {
     }
 
     private static void due(String name, String bits, int answer, int bytes, int bit) {
-        due(name, 2000, Use.packed(bits), answer, bytes, bit);
+        Coded.due(name, bits, answer, bytes, bit);
     }
 
     private static void due(String name, int room, int[] coded, int answer, int bytes, int bit) {
-        DeflateEffort x = new DeflateEffort(5, room);
-        Use.feedCoded(x, coded);
-        Check.same(name + ": inflate()", x.inflate(), answer);
-        Check.same(name + ": told(8)", x.told(8), bytes);
-        Check.same(name + ": told(9)", x.told(9), bit);
+        Coded.due(name, room, coded, answer, bytes, bit);
     }
 
     private static void ends() {

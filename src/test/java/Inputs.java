@@ -1,4 +1,6 @@
+import java.util.HashSet;
 import java.util.Random;
+import java.util.Set;
 
 /** Rows of bytes of many kinds, always the same ones for the same seed. */
 final class Inputs {
@@ -35,5 +37,76 @@ final class Inputs {
     private static int again(int i, int[] row, Random random, int often, int letters) {
         int back = 1 + (i / 9 * 13) % 60;
         return i >= back && random.nextInt(often) != 0 ? row[i - back] : random.nextInt(letters);
+    }
+
+    /**
+     * Bytes in which no three stand twice, so that there is no match: each occurs as often as makes its
+     * code as long as the row tells, if the end has the longest one. The row is written as Head reads it.
+     */
+    static int[] withCodeLengths(String row) {
+        int[] lengths = told(row);
+        int most = lengths[256];
+        int[] counts = new int[256];
+        int all = 1;
+        for (int b = 0; b < 256; b++) {
+            counts[b] = lengths[b] == 0 ? 0 : 1 << (most - lengths[b]);
+            all += counts[b];
+        }
+        if (all != 1 << most) {
+            throw new IllegalArgumentException(row + " is not full: " + all + " of " + (1 << most));
+        }
+        return withoutMatches(counts);
+    }
+
+    private static int[] told(String row) {
+        int[] lengths = new int[257];
+        int at = 0;
+        for (String part : row.split(" ")) {
+            String[] pair = part.split("x");
+            int symbol = Integer.parseInt(pair[0]);
+            int times = pair.length == 1 ? 1 : Integer.parseInt(pair[1]);
+            int length = symbol < 16 ? symbol : symbol == 16 ? lengths[at - 1] : 0;
+            for (int i = 0; i < times && at < 257; i++) {
+                lengths[at++] = length;
+            }
+        }
+        return lengths;
+    }
+
+    /** Each byte as often as its count says, in an order in which no three bytes stand twice. */
+    static int[] withoutMatches(int[] counts) {
+        int[] row = null;
+        for (int seed = 0; row == null && seed < 1000; seed++) {
+            row = ordered(counts.clone(), new Random(seed));
+        }
+        if (row == null) {
+            throw new IllegalArgumentException("no order without matches was found");
+        }
+        return row;
+    }
+
+    private static int[] ordered(int[] left, Random random) {
+        int[] row = new int[java.util.Arrays.stream(left).sum()];
+        Set<Integer> seen = new HashSet<>();
+        for (int i = 0; i < row.length; i++) {
+            boolean fits = false;
+            for (int k = 0; k < 300 && !fits; k++) {
+                row[i] = drawn(left, random.nextInt(row.length - i));
+                fits = i < 2 || seen.add(row[i - 2] << 16 | row[i - 1] << 8 | row[i]);
+            }
+            if (!fits) {
+                return null;
+            }
+            left[row[i]]--;
+        }
+        return row;
+    }
+
+    private static int drawn(int[] left, int number) {
+        int b = 0;
+        for (int n = number; n >= left[b]; b++) {
+            n -= left[b];
+        }
+        return b;
     }
 }

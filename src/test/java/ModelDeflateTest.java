@@ -50,7 +50,7 @@ final class ModelDeflateTest {
         return row;
     }
 
-    private static void compare(String name, int[] bytes, int effort) {
+    static void compare(String name, int[] bytes, int effort) {
         String what = name + bytes.length + " bytes, effort " + effort + ": ";
         DeflateEffort x = Use.fed(effort, 2000, bytes);
         Model.Deflated due = Model.deflate(bytes, effort);

@@ -3,24 +3,24 @@ final class ToldTest {
     public static void main(String[] args) {
         DeflateEffort x = new DeflateEffort(2, 30);
         Use.feedAll(x, Use.bytes("abcabcabc"));
-        tells("fed", x, 2, 30, 9, 0, 0, 0, 0, 0, 0, -1);
+        Use.tells("fed", x, 2, 30, 9, 0, 0, 0, 0, 0, 0, -1);
         x.deflate();
         // abc at 3 and bca at 4 .. abc at 6 have one place each, abc at 6 two: 1 + 1 + 1 + 2.
-        tells("deflated", x, 2, 30, 9, 6, 1, 5, 0, 0, 0, -1);
+        Use.tells("deflated", x, 2, 30, 9, 6, 1, 5, 0, 0, 0, -1);
         x.feed('!', 3);
-        tells("fed more", x, 2, 30, 12, 6, 1, 5, 0, 0, 0, -1);
+        Use.tells("fed more", x, 2, 30, 12, 6, 1, 5, 0, 0, 0, -1);
         x.pass(0, 4);
         x.feedCoded(200);
-        tells("passed", x, 2, 30, 12, 6, 1, 5, 0, 5, 0, -1);
+        Use.tells("passed", x, 2, 30, 12, 6, 1, 5, 0, 5, 0, -1);
         Check.same("inflate()", x.inflate(), Model.inflate(codedOf(x), 30).answer);
         Check.same("inflated bytes", x.told(8), Model.inflate(codedOf(x), 30).bytes.size());
         x.clear();
         Use.feedCoded(x, 0x4B, 0x04, 0x00);
         x.inflate();
-        tells("inflated", x, 2, 30, 0, 0, 0, 0, 0, 3, 1, 18);
+        Use.tells("inflated", x, 2, 30, 0, 0, 0, 0, 0, 3, 1, 18);
         x.alter(0, 0x4F);
         x.inflate();
-        tells("broken", x, 2, 30, 0, 0, 0, 0, 0, 3, 0, 0);
+        Use.tells("broken", x, 2, 30, 0, 0, 0, 0, 0, 3, 0, 0);
         others(x);
         rounds();
         Check.end();
@@ -33,12 +33,6 @@ final class ToldTest {
             x.alter(i, coded[i]);
         }
         return coded;
-    }
-
-    private static void tells(String name, DeflateEffort x, int... due) {
-        for (int what = 0; what < due.length; what++) {
-            Check.same(name + ": told(" + what + ")", x.told(what), due[what]);
-        }
     }
 
     private static void others(DeflateEffort x) {

@@ -53,6 +53,46 @@ final class Use {
         return bytes;
     }
 
+    /** What block k tells: where it begins, its bytes, kind, bits, tokens and matches, as many as are due. */
+    static void blockTells(String name, DeflateEffort x, int k, int... due) {
+        for (int what = 0; what < due.length; what++) {
+            Check.same(name + ": block(" + k + ", " + what + ")", x.block(k, what), due[what]);
+        }
+    }
+
+    /** What told answers from 0 on, as much as is due. */
+    static void tells(String name, DeflateEffort x, int... due) {
+        for (int what = 0; what < due.length; what++) {
+            Check.same(name + ": told(" + what + ")", x.told(what), due[what]);
+        }
+    }
+
+    /** Deflates, and looks at each byte that comes. */
+    static void comes(String name, DeflateEffort x, String bits) {
+        int[] due = packed(bits);
+        Check.same(name + ": deflate()", x.deflate(), due.length);
+        for (int i = 0; i < Math.min(due.length, x.told(3)); i++) {
+            Check.same(name + ": byteAt(" + i + ")", x.byteAt(i), due[i]);
+        }
+    }
+
+    /** The same byte many times. */
+    static int[] many(int b, int n) {
+        int[] row = new int[n];
+        java.util.Arrays.fill(row, b);
+        return row;
+    }
+
+    static int[] joined(int[]... parts) {
+        int[] all = new int[0];
+        for (int[] part : parts) {
+            int before = all.length;
+            all = java.util.Arrays.copyOf(all, before + part.length);
+            System.arraycopy(part, 0, all, before, part.length);
+        }
+        return all;
+    }
+
     /** All that an object tells of itself, to see that a call changed nothing. */
     static String picture(DeflateEffort x) {
         StringBuilder text = new StringBuilder();
