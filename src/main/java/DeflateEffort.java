@@ -1055,15 +1055,13 @@ public final class DeflateEffort {
         private void measure() {
             longest = 0;
             free = 1;
-            boolean overFull = false;
             next[0] = 0;
             for (int n = 1; n <= LONGEST_CODE; n++) {
                 next[n] = next[n - 1] + perLength[n - 1];
+                // Once it is below 0, it stays there.
                 free = 2 * free - perLength[n];
-                overFull = overFull || free < 0;
                 longest = perLength[n] > 0 ? n : longest;
             }
-            free = overFull ? -1 : free;
         }
 
         boolean isFull() {

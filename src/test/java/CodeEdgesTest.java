@@ -33,9 +33,13 @@ final class CodeEdgesTest {
     }
 
     private static DeflateEffort deflated(int effort, int[] bytes) {
-        DeflateEffort x = Use.fed(effort, 1, bytes);
+        DeflateEffort x = Use.fed(effort, 2000, bytes);
         x.deflate();
         Check.same("blocks", x.told(4), 1);
+        x.pass(0, 600);
+        Check.same("inflate()", x.inflate(), 1);
+        Check.same("bits as counted", x.block(0, 3), x.told(9));
+        Check.holds("as it was fed", Arrays.equals(Use.inflated(x), bytes));
         return x;
     }
 
@@ -171,15 +175,9 @@ final class CodeEdgesTest {
 
     /** Promise 3: "a symbol's length is how often it was joined (1, if it is the only one)". */
     private static void theOnlyOne() {
-        int[] bytes = Use.joined(Use.many(1, 4), plain());
-        DeflateEffort x = Use.fed(1, 2000, bytes);
-        x.deflate();
-        Head head = Head.of(x);
+        Head head = headOf(1, Use.joined(Use.many(1, 4), plain()));
         Check.same("distances", head.distances, 1);
         Check.holds("the only distance has 1: " + head.row, head.row.endsWith(" 1"));
-        x.pass(0, 600);
-        Check.same("it is inflated", x.inflate(), 1);
-        Check.holds("as it was fed", Arrays.equals(Use.inflated(x), bytes));
         // The end is the only one of no bytes: one bit, and a row that is longer than the fixed codes.
         DeflateEffort none = deflated(9, new int[0]);
         Check.same("no bytes: kind", none.block(0, 2), 1);

@@ -35,6 +35,18 @@ final class Coded {
         return bits.append(' ').toString();
     }
 
+    /** A length by its fixed code, with its extra bits. */
+    static String length(int n) {
+        int[] parts = Model.lengthParts(n);
+        return Model.codes(Model.fixedLiterals())[parts[0]] + Use.low(parts[2], parts[1]) + " ";
+    }
+
+    /** A distance by its fixed code, with its extra bits. */
+    static String distance(int n) {
+        int[] parts = Model.distanceParts(n);
+        return Model.high(parts[0], 5) + Use.low(parts[2], parts[1]) + " ";
+    }
+
     /** How many bits are written here. */
     static int count(String bits) {
         return bits.replace(" ", "").length();

@@ -34,6 +34,7 @@ final class InflateEdgesTest {
         longestCodes();
         setOfDistances();
         fewDistances();
+        fewDistancesBehindOthers();
         noLengthForTheEnd();
         setsWhenTheyAreThere();
         noSymbolHasTheCode();
@@ -41,6 +42,7 @@ final class InflateEdgesTest {
         lengthSymbols();
         distanceSymbols();
         beforeTheFirstByte();
+        tooFarByItsLastBit();
         fullByALiteral();
         fullByAMatch();
         fullByStoredBytes();
@@ -180,8 +182,13 @@ final class InflateEdgesTest {
         due("one that is not there", Coded.STORED + Coded.storedLength(1), 0, 0, -1);
         due("65535", Coded.STORED + Coded.storedLength(65535) + "11111111", 0, 1, -1);
         due("bits between that are set", "1 00 11111" + Coded.storedLength(0), 1, 0, 40);
-        // The three bits of the second block end a byte: none are between.
-        due("no bits between", Coded.FIXED_NOT_LAST + Coded.HIGH.repeat(3) + END + "1 00" + Coded.storedLength(0), 1, 3, 72);
+        // Behind blocks of one bit more each: none to seven bits are left out.
+        for (int n = 0; n < 8; n++) {
+            String before = Coded.FIXED_NOT_LAST + Coded.HIGH.repeat(n) + END + "1 00";
+            String between = "1".repeat(shift(Coded.count(before)));
+            due(between.length() + " bits between", before + between + Coded.storedLength(0), 1, n,
+                    Coded.count(before) + between.length() + 32);
+        }
     }
 
     /** Promise 9: "a stored length whose complement is not behind it": at the length's first bit, by any bit of 16. */
@@ -347,6 +354,21 @@ final class InflateEdgesTest {
         due("the second alone", second + "10 10 0 0 11", 1, 5, second.length() + 8);
     }
 
+    /** Promise 9: "one code of one bit, or none at all, of distances": though the block before had others. */
+    private static void fewDistancesBehindOthers() {
+        int[] full = {2, 2, 2, 2};
+        String before = "0" + Use.ownBlock(FEW, full).substring(1) + "10 0 00 11";
+        String one = Use.ownBlock(FEW, ONE);
+        due("one", before + one + "10 0 0 11", 1, 8, Coded.count(before + one) + 6);
+        due("one, the other bit", before + one + "10 0 1", 2, 5, Coded.count(before + one) + 3);
+        String none = Use.ownBlock(FEW, new int[] {0});
+        due("none", before + none + "10 11", 1, 5, Coded.count(before + none) + 4);
+        int letters = shift(Coded.count(before + none) + 1) / 2;
+        String cut = before + none + "10".repeat(letters) + "0";
+        due("none, at once", cut, 2, 4 + letters, Coded.count(cut));
+        due("none, and not full literals", before + literals(97, 2, 256, 1), 2, 4, Coded.count(before));
+    }
+
     /** Promise 9: "and no length for the end: told at the block's first bit". */
     private static void noLengthForTheEnd() {
         brokenAtTheBlock("two letters", literals(97, 1, 98, 1));
@@ -402,6 +424,10 @@ final class InflateEdgesTest {
         due("287", FIXED + A + "11000111", 2, 1, 11);
         due("286 at first", FIXED + "11000110", 2, 0, 3);
         due("284 with most", FIXED + A + "11000100 11111 00000" + END, 1, 259, 36);
+        for (int n = 3; n <= 258; n++) {
+            due("a length of " + n, FIXED + A + Coded.length(n) + Coded.ONE_BACK + END, 1, 1 + n,
+                    Coded.count(Coded.length(n)) + 23);
+        }
     }
 
     /** Promise 9: "a distance symbol above 29": at the distance's code; up to 29 it is too far, at the length's. */
@@ -424,6 +450,44 @@ final class InflateEdgesTest {
         due("the first byte of a block before", BEFORE + FIXED + THREE + Coded.ONE_BACK + END, 1, 4, 40);
         due("beyond it", BEFORE + FIXED + THREE + Coded.TWO_BACK, 2, 1, 21);
         due("the farthest", FIXED + A + THREE + "11101" + "1".repeat(13), 2, 1, 11);
+        // The first and the last distance of each symbol, with as many bytes before it, and with one fewer.
+        int[] edges = {3, 4, 5, 6, 7, 8, 9, 12, 13, 16, 17, 24, 25, 32, 33, 48, 49, 64, 65, 96, 97, 128, 129, 192, 193, 256,
+            257, 384, 385, 512, 513, 768, 769, 1024, 1025, 1536, 1537, 1997};
+        for (int d : edges) {
+            String all = bytes(d);
+            String fewer = bytes(d - 1);
+            due(d + " of as many", all + THREE + Coded.distance(d) + END, 1, d + 3,
+                    Coded.count(all + THREE + Coded.distance(d)) + 7);
+            due(d + " of one fewer", fewer + THREE + Coded.distance(d), 2, d - 1, Coded.count(fewer));
+        }
+    }
+
+    /** A block that begins with so many bytes: a, and matches of up to 258, none of 1 or 2. */
+    private static String bytes(int n) {
+        StringBuilder bits = new StringBuilder(FIXED);
+        int left = n;
+        while (left % 258 < 4 && left > 0) {
+            bits.append(A);
+            left--;
+        }
+        bits.append(left > 0 ? A : "");
+        for (left--; left > 0; left -= Math.min(258, left)) {
+            bits.append(Coded.length(Math.min(258, left))).append(Coded.ONE_BACK);
+        }
+        return bits.toString();
+    }
+
+    /** Promise 9: "a distance that leads before the first byte": told when its last extra bit is there. */
+    private static void tooFarByItsLastBit() {
+        for (int symbol = 22; symbol < 30; symbol++) {
+            int extra = symbol / 2 - 1;
+            for (int k = 0; k <= extra; k++) {
+                int more = shift(3 + 7 + 5 + k);
+                String bits = FIXED + A + Coded.HIGH.repeat(more) + THREE + Model.high(symbol, 5) + "0".repeat(k);
+                Coded.dueOfWholeBytes(symbol + " with " + k + " bits", bits, k == extra ? 2 : 0, 1 + more,
+                        k == extra ? 3 + 8 + 9 * more : -1);
+            }
+        }
     }
 
     /** Promise 9: "A byte that is told when there are ROOM makes it FULL.": a literal. */

@@ -14,6 +14,7 @@ final class KindEdgesTest {
     public static void main(String[] args) {
         noBytes();
         mostBytes();
+        storedBehindAnyBit();
         storedByEffortNone();
         fixedLiterals();
         fixedLengths();
@@ -68,6 +69,26 @@ final class KindEdgesTest {
         }
     }
 
+    /** Promise 3: "0 STORED 42 + 8 n": none to seven bits are left out before its length. */
+    private static void storedBehindAnyBit() {
+        for (int n = 0; n < 8; n++) {
+            // n high bytes, a literal and a match of 115 to 130: 35 + 9 n bits, and three of the next block.
+            int[] bytes = Use.joined(high(n), Use.many('x', 128 - n), Inputs.row(0, 384, 5));
+            DeflateEffort x = Use.fed(2, 2000, bytes);
+            int before = (35 + 9 * n + 3 + 7) / 8;
+            Check.same(n + ": deflate()", x.deflate(), before + 4 + 384);
+            Check.same(n + ": bits before it", x.block(0, 3), 35 + 9 * n);
+            Use.blockTells(n + ": the second", x, 1, 128, 384, 0, 42 + 8 * 384);
+            int[] due = {384 & 255, 384 >> 8, ~384 & 255, ~(384 >> 8) & 255, bytes[128]};
+            for (int i = 0; i < due.length; i++) {
+                Check.same(n + ": byteAt(" + (before + i) + ")", x.byteAt(before + i), due[i]);
+            }
+            x.pass(0, 600);
+            Check.same(n + ": inflate()", x.inflate(), 1);
+            Check.holds(n + ": as it was fed", java.util.Arrays.equals(Use.inflated(x), bytes));
+        }
+    }
+
     /** Promise 3: "By EFFORT 0 it is STORED.", and one block, as each more takes 42 bits. */
     private static void storedByEffortNone() {
         for (int n : new int[] {1, 127, 128, 129, 256, 512}) {
@@ -84,8 +105,10 @@ final class KindEdgesTest {
         for (int[] of : cases) {
             Use.blockTells("byte " + of[0], deflated(1, new int[] {of[0]}), 0, 0, 1, 1, 3 + of[1] + 7, 1, 0);
         }
+        Use.comes("0", Use.fed(1, 1, new int[] {0}), Coded.FIXED + "00110000" + Coded.END);
         Use.comes("143", Use.fed(1, 1, new int[] {143}), Coded.FIXED + "10111111" + Coded.END);
         Use.comes("144", Use.fed(1, 1, new int[] {144}), Coded.FIXED + Coded.HIGH + Coded.END);
+        Use.comes("255", Use.fed(1, 1, new int[] {255}), Coded.FIXED + "111111111" + Coded.END);
     }
 
     /** Promise 3: "by the fixed codes": the lengths' symbols up to 279 have 7 bits, those from 280 on 8. */
@@ -96,6 +119,10 @@ final class KindEdgesTest {
         for (int[] of : cases) {
             DeflateEffort x = deflated(1, Use.many('z', of[0] + 1));
             Use.blockTells("a match of " + of[0], x, 0, 0, of[0] + 1, 1, 3 + 8 + of[1] + 5 + 7, 2, 1);
+        }
+        for (int n = 3; n <= 258; n++) {
+            Use.comes("a match of " + n, Use.fed(1, 1, Use.many('a', n + 1)),
+                    Coded.FIXED + Coded.A + Coded.length(n) + Coded.ONE_BACK + Coded.END);
         }
     }
 
@@ -109,6 +136,14 @@ final class KindEdgesTest {
             }
             DeflateEffort x = deflated(1, Use.joined(Use.bytes("ABC"), between, Use.bytes("ABC")));
             Use.blockTells("a distance of " + of[0], x, 0, 0, of[0] + 3, 1, 3 + 8 * of[0] + 7 + 5 + of[1] + 7, of[0] + 1, 1);
+        }
+        // Farther ones by codes of their own: the first and the last distances of each symbol.
+        int[] plain = Inputs.withoutMatches(Use.joined(Use.many(0, 100), Use.many(32, 16), Use.many(0, 140)));
+        for (int d : new int[] {48, 49, 64, 65, 96, 97, 128, 129, 192, 193, 256, 257, 384, 385, 508}) {
+            int[] bytes = Use.joined(Use.bytes("ABC"), java.util.Arrays.copyOf(plain, d - 3), Use.bytes("ABC"));
+            ModelDeflateTest.compare("a distance of " + d + ", ", bytes, 1);
+            DeflateEffort x = deflated(1, bytes);
+            Check.same("the match of the last block", x.block(x.told(4) - 1, 5), 1);
         }
     }
 

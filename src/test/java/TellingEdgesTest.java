@@ -9,6 +9,7 @@ final class TellingEdgesTest {
         byteAtFirstAndLast();
         byteAtOfTheLatest();
         blockFirstAndLast();
+        blockOfTheLatest();
         blockOtherWhat();
         blockStored();
         blockByEffortNone();
@@ -88,6 +89,26 @@ final class TellingEdgesTest {
         x.deflate();
         Use.blockTells("no bytes", x, 0, 0, 0, 1, 10, 0, 0);
         Check.refusesIndex("block(1, 0) of no bytes", () -> x.block(1, 0));
+    }
+
+    /** Promise 5: "of the latest deflate()": not of those before it. */
+    private static void blockOfTheLatest() {
+        DeflateEffort x = Use.fed(5, 1, Use.joined(Use.many('x', 128), Inputs.row(0, 200, 6)));
+        int came = x.deflate();
+        Check.same("blocks", x.told(4), 2);
+        int steps = x.told(5);
+        for (int i = 0; i < 3; i++) {
+            Check.same("deflate() again", x.deflate(), came);
+            Check.same("blocks again", x.told(4), 2);
+            Check.same("steps again", x.told(5), steps);
+            Use.blockTells("the second", x, 1, 128, 200, 0);
+            Check.refusesIndex("a third one", () -> x.block(2, 0));
+        }
+        x.feed('y', 128);
+        Use.blockTells("fed since", x, 1, 128, 200, 0);
+        x.deflate();
+        Check.same("blocks with what was fed since", x.told(4), 3);
+        Use.blockTells("the last", x, 2, 256, 200, 1);
     }
 
     /** Promise 5: "NONE for another what." */
@@ -284,11 +305,12 @@ final class TellingEdgesTest {
 
     /** Promise 13: "Nothing was fed, or came.": where there was no room left. */
     private static void clearOfAll() {
-        DeflateEffort x = Use.fed(9, 10, Inputs.row(0, 512, 1));
+        DeflateEffort x = Use.fed(9, 10, Use.joined(Inputs.row(5, 256, 1), Inputs.row(0, 256, 1)));
         x.deflate();
-        x.pass(0, 517);
-        x.pass(0, 517);
-        x.pass(0, 166);
+        Check.holds("steps, rounds and blocks", x.told(5) > 0 && x.told(6) > 0 && x.told(4) > 1);
+        while (x.told(7) < 1200) {
+            x.pass(0, 1200 - x.told(7));
+        }
         Check.same("inflate()", x.inflate(), 3);
         x.clear();
         Check.holds("as a new one", Use.picture(x).equals(Use.picture(new DeflateEffort(9, 10))));
