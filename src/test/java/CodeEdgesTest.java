@@ -19,6 +19,7 @@ final class CodeEdgesTest {
         threeEqualOnesOrMore();
         moreEqualOnesThanSix();
         equalOnesUpToTheEnd();
+        allOneByOne();
         bothInOneRow();
         literalsUpToTheLast();
         distancesUpToTheLast();
@@ -135,6 +136,11 @@ final class CodeEdgesTest {
     /** Promise 3: "of other equal ones the first one, then 16": the end's length goes with those before it. */
     private static void equalOnesUpToTheEnd() {
         tells("18x138 18x97", "4 16x6 16x6 5 16x4 7 16x3 0");
+    }
+
+    /** Promise 3: "the rest one by one": all 258 lengths of 256 bytes, the end and a distance. */
+    private static void allOneByOne() {
+        tells("2" + " 8 9".repeat(127) + " 8 9 0");
     }
 
     /** Promise 3: "Lengths of literals and lengths [..], then of distances [..], are told in one row". */

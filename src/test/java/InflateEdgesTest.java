@@ -44,6 +44,8 @@ final class InflateEdgesTest {
         beforeTheFirstByte();
         tooFarByItsLastBit();
         fullByALiteral();
+        fullByTheMost();
+        mostBlocks();
         fullByAMatch();
         fullByStoredBytes();
         brokenBeforeFull();
@@ -496,6 +498,23 @@ final class InflateEdgesTest {
         dueInRoom("one more", 2, FIXED + A + A + A + END, 3, 2, -1);
         dueInRoom("room of one", 1, FIXED + A + A, 3, 1, -1);
         dueInRoom("just full, and bits are wanted", 2, FIXED + A + A, 0, 2, -1);
+    }
+
+    /** Promise 9: "A byte that is told when there are ROOM makes it FULL.": as many as can be, by one bit each. */
+    private static void fullByTheMost() {
+        String own = literals(97, 1, 256, 1);
+        due("2000", own + "0".repeat(2000) + "1", 1, 2000, own.length() + 2001);
+        due("2001", own + "0".repeat(2001) + "1", 3, 2000, -1);
+        due("1999, and more is wanted", own + "0".repeat(1999 + shift(own.length() + 1999) - 8), 0,
+                1999 + shift(own.length() + 1999) - 8, -1);
+    }
+
+    /** Promise 9 (terms): "CODED bytes, at most 1,200", "as long as their bits tell": as many blocks as can be. */
+    private static void mostBlocks() {
+        String empty = Coded.FIXED_NOT_LAST + END;
+        due("960 empty blocks", empty.repeat(960), 0, 0, -1);
+        due("the last is the last", empty.repeat(959) + FIXED + END, 1, 0, 9600);
+        due("the last is of kind 3", empty.repeat(959) + "1 11", 2, 0, 9590);
     }
 
     /** Promise 9: "A byte that is told when there are ROOM makes it FULL.": those of a match, as many as there is room. */

@@ -14,6 +14,7 @@ final class KindEdgesTest {
     public static void main(String[] args) {
         noBytes();
         mostBytes();
+        mostThatComes();
         storedBehindAnyBit();
         storedByEffortNone();
         fixedLiterals();
@@ -69,6 +70,33 @@ final class KindEdgesTest {
         }
     }
 
+    /** 512 bytes without a match, so many of them of nine bits by the fixed codes, the others of eight. */
+    private static int[] mostWithHigh(int high) {
+        int[] counts = new int[256];
+        for (int i = 0; i < 512; i++) {
+            counts[i < high ? 144 + 3 * i : i * 5 % 144]++;
+        }
+        return Inputs.withoutMatches(counts);
+    }
+
+    /** Promise 3: "how many CODED bytes come": with a bit fewer than 42 + 8 n one more than if they were stored. */
+    private static void mostThatComes() {
+        for (int effort = 1; effort <= 9; effort += 4) {
+            DeflateEffort fixed = Use.fed(effort, 2000, mostWithHigh(31));
+            Check.same("what comes by 4137 bits", fixed.deflate(), 518);
+            Use.blockTells("4137 bits", fixed, 0, 0, 512, 1, 4137, 512, 0);
+            Check.same("the last byte is the end's last bit", fixed.byteAt(517), 0);
+            Check.refusesIndex("one more", () -> fixed.byteAt(518));
+            Check.same("pass them", fixed.pass(0, 1200), 518);
+            Check.same("inflate()", fixed.inflate(), 1);
+            Check.same("the bit behind the end", fixed.told(9), 4137);
+            Check.same("as it was fed", fixed.sum(3), fixed.sum(2));
+            DeflateEffort stored = deflated(effort, mostWithHigh(32));
+            Check.same("what comes, stored", stored.told(3), 517);
+            Use.blockTells("4138 bits", stored, 0, 0, 512, 0, 4138, 512, 0);
+        }
+    }
+
     /** Promise 3: "0 STORED 42 + 8 n": none to seven bits are left out before its length. */
     private static void storedBehindAnyBit() {
         for (int n = 0; n < 8; n++) {
@@ -121,8 +149,10 @@ final class KindEdgesTest {
             Use.blockTells("a match of " + of[0], x, 0, 0, of[0] + 1, 1, 3 + 8 + of[1] + 5 + 7, 2, 1);
         }
         for (int n = 3; n <= 258; n++) {
-            Use.comes("a match of " + n, Use.fed(1, 1, Use.many('a', n + 1)),
-                    Coded.FIXED + Coded.A + Coded.length(n) + Coded.ONE_BACK + Coded.END);
+            DeflateEffort x = Use.fed(1, 1, Use.many('a', n + 1));
+            String due = Coded.FIXED + Coded.A + Coded.length(n) + Coded.ONE_BACK + Coded.END;
+            Use.comes("a match of " + n, x, due);
+            Check.same("bits of a match of " + n, x.block(0, 3), Coded.count(due));
         }
     }
 

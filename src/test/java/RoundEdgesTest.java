@@ -10,6 +10,8 @@ final class RoundEdgesTest {
         noDistance();
         noLiteral();
         extraBits();
+        upTo258();
+        priceOf258();
         equalPricesOfALiteral();
         equalPricesOfLengths();
         anyLengthFromThree();
@@ -103,6 +105,24 @@ final class RoundEdgesTest {
     private static void extraBits() {
         tells(9, "abbbbbbbbbbcbbcbbbbbbbbbbcbbbbc", 1, 1, 85, 7, 4);
         tells(7, "ccccbbaabbacbbac", 1, 1, 94, 9, 3);
+    }
+
+    /** Promise 3: "any length from 3 to its own": up to 258, whose symbol has no extra bits. */
+    private static void upTo258() {
+        for (int n : new int[] {257, 258, 259, 260, 262, 300}) {
+            int[] bytes = Use.joined(Use.bytes("cbcacbacccaacacaacccbcbcc"), Use.many('x', n));
+            for (int effort = 7; effort <= 9; effort++) {
+                ModelDeflateTest.compare("with " + n + " equal ones, ", bytes, effort);
+            }
+        }
+    }
+
+    /** Promise 3: "12 for literals and lengths that have none there": 258, which the match before it hides at first. */
+    private static void priceOf258() {
+        tells(8, "acccca" + "c".repeat(259) + "aabb", 1, 0, 101, 9, 3);
+        tells(8, "acccbccbba" + "cb".repeat(130) + "b", 1, 0, 117, 11, 3);
+        tells(8, "abcccbbab" + "c".repeat(259) + "aaaa", 1, 0, 117, 11, 3);
+        tells(9, "baccbaaabcbbc" + "bcb".repeat(87) + "aab" + "aac".repeat(6), 1, 1, 190, 19, 5);
     }
 
     /** Promise 3: "of equal prices by the shorter one": a literal rather than a match. */
