@@ -58,7 +58,7 @@ final class ModelInflateTest {
     }
 
     /** A block of own codes whose sets are full, or nearly so, with noise behind it. */
-    private static int[] madeUpCodes(Random random) {
+    static int[] madeUpCodes(Random random) {
         int literals = 257 + random.nextInt(30);
         int distances = 1 + random.nextInt(30);
         int[] lengths = new int[literals + distances];

@@ -13,8 +13,8 @@ final class RoundTripTest {
             x.deflate();
             byte[] back = new byte[600];
             Inflater inflater = new Inflater(true);
-            inflater.setInput(bytes(Use.came(x)));
-            same(name + "by the library", row, ints(back, inflater.inflate(back)));
+            inflater.setInput(Use.octets(Use.came(x)));
+            same(name + "by the library", row, Use.numbers(back, inflater.inflate(back)));
             Check.holds(name + "the library is at its end", inflater.finished());
             inflater.end();
             x.pass(0, 600);
@@ -28,34 +28,18 @@ final class RoundTripTest {
 
     private static void other(String name, int[] row, int level) {
         Deflater deflater = new Deflater(level, true);
-        deflater.setInput(bytes(row));
+        deflater.setInput(Use.octets(row));
         deflater.finish();
         byte[] coded = new byte[700];
         int count = deflater.deflate(coded);
         deflater.end();
         DeflateEffort x = new DeflateEffort(1, 512);
-        Use.feedCoded(x, ints(coded, count));
+        Use.feedCoded(x, Use.numbers(coded, count));
         Check.same(name + "inflate() of what the library deflated", x.inflate(), 1);
         same(name + "what the library deflated", row, Use.inflated(x));
     }
 
     private static void same(String name, int[] due, int[] got) {
         Check.holds(name, java.util.Arrays.equals(due, got));
-    }
-
-    private static byte[] bytes(int[] row) {
-        byte[] bytes = new byte[row.length];
-        for (int i = 0; i < row.length; i++) {
-            bytes[i] = (byte) row[i];
-        }
-        return bytes;
-    }
-
-    private static int[] ints(byte[] row, int count) {
-        int[] ints = new int[count];
-        for (int i = 0; i < count; i++) {
-            ints[i] = row[i] & 255;
-        }
-        return ints;
     }
 }

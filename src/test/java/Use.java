@@ -93,6 +93,24 @@ final class Use {
         return all;
     }
 
+    /** A row as the library wants it. */
+    static byte[] octets(int[] row) {
+        byte[] octets = new byte[row.length];
+        for (int i = 0; i < row.length; i++) {
+            octets[i] = (byte) row[i];
+        }
+        return octets;
+    }
+
+    /** What the library made, as far as it goes. */
+    static int[] numbers(byte[] octets, int count) {
+        int[] row = new int[count];
+        for (int i = 0; i < count; i++) {
+            row[i] = octets[i] & 255;
+        }
+        return row;
+    }
+
     /** All that an object tells of itself, to see that a call changed nothing. */
     static String picture(DeflateEffort x) {
         StringBuilder text = new StringBuilder();
